@@ -855,13 +855,13 @@ public final class FerryPlans {
     }
 
     /**
-     * LATER: harbours that lack are served one after the other, each unit in the cheapest way that is open.
-     * A way may take units from a harbour that was served before, if that one's next way is cheap enough.
+     * LATER: harbours that lack are served one after the other, each unit in the cheapest way that is open. Such a way
+     * may take units that were sent to a harbour served before, which then goes its own next way instead. That is as
+     * far as it need go: three of four harbours lack only where one gives, and two givers serve only two.
      */
     private static final class Crossing {
         private static final int HIRE = -1;
         private static final int LEAVE = -2;
-        private static final int ITSELF = -1;
         private final Told told;
         private int givers = 0;
         private final int[] giver = new int[HARBOURS];
@@ -874,26 +874,9 @@ public final class FerryPlans {
         private final int[] sent = new int[HARBOURS * HARBOURS];
         private final int[] price = new int[HARBOURS];
         private final int[] way = new int[HARBOURS];
-        private final int[] from = new int[HARBOURS];
 
         Crossing(Told told) {
             this.told = told;
-        }
-
-        /** Of what was weighed last. */
-        int leastLater() {
-            int sum = 0;
-            for (int k = 0; k < takers; k++) {
-                for (int turn = 0; turn < LACK_MOST && lack[k] > 0; turn++) {
-                    for (int t = 0; t <= k; t++) findOwnWay(t);
-                    for (int round = 0; round < k; round++) findWaysBySharing(k);
-                    int units = Math.min(lack[k], narrowest(k));
-                    send(k, units);
-                    lack[k] -= units;
-                    sum += units * price[k];
-                }
-            }
-            return sum;
         }
 
         void weigh(int plan, int world) {
@@ -902,11 +885,11 @@ public final class FerryPlans {
             Arrays.fill(sent, 0);
             for (int h = 0; h < HARBOURS; h++) {
                 int balance = told.balance(h, plan, world);
-                if (balance > 0 && givers < HARBOURS) {
+                if (balance > 0) {
                     giver[givers] = h;
                     spare[givers] = balance;
                     givers++;
-                } else if (balance < 0 && takers < HARBOURS) {
+                } else if (balance < 0) {
                     taker[takers] = h;
                     lack[takers] = -balance;
                     hirable[takers] = told.numbers[h * KINDS + LIMIT];
@@ -920,10 +903,22 @@ public final class FerryPlans {
             }
         }
 
+        /** Of what was weighed last. */
+        int leastLater() {
+            int sum = 0;
+            for (int t = 0; t < takers; t++) {
+                // Every turn serves a unit at least.
+                for (int turn = 0; turn < LACK_MOST && lack[t] > 0; turn++) {
+                    for (int other = 0; other <= t; other++) findOwnWay(other);
+                    sum += serve(t);
+                }
+            }
+            return sum;
+        }
+
         private void findOwnWay(int t) {
             price[t] = told.numbers[LEFT];
             way[t] = LEAVE;
-            from[t] = ITSELF;
             int dear = told.numbers[taker[t] * KINDS + DEAR];
             if (hirable[t] > 0 && dear < price[t]) {
                 price[t] = dear;
@@ -938,48 +933,46 @@ public final class FerryPlans {
             }
         }
 
-        /** One round over the takers up to the last: each looks whether units sent to another are cheaper. */
-        private void findWaysBySharing(int last) {
+        /** Serves units in the way that is cheapest now: what they cost. */
+        private int serve(int t) {
+            int least = price[t];
+            int other = t;
+            int from = 0;
             for (int g = 0; g < givers; g++) {
-                for (int other = 0; other <= last; other++) {
-                    if (sent[g * HARBOURS + other] == 0) continue;
-                    int freed = price[other] - fares[g * HARBOURS + other];
-                    for (int t = 0; t <= last; t++) {
-                        int shared = freed + fares[g * HARBOURS + t];
-                        if (t != other && shared < price[t]) {
-                            price[t] = shared;
-                            way[t] = g;
-                            from[t] = other;
-                        }
+                for (int k = 0; k < t; k++) {
+                    int shared = price[k] - fares[g * HARBOURS + k] + fares[g * HARBOURS + t];
+                    if (sent[g * HARBOURS + k] > 0 && shared < least) {
+                        least = shared;
+                        other = k;
+                        from = g;
                     }
                 }
             }
+            int units = Math.min(lack[t], roomOf(other));
+            if (other != t) {
+                units = Math.min(units, sent[from * HARBOURS + other]);
+                sent[from * HARBOURS + other] -= units;
+                sent[from * HARBOURS + t] += units;
+            }
+            goOwnWay(other, units);
+            lack[t] -= units;
+            return units * least;
         }
 
-        /** How many units the way of a taker has room for. */
-        private int narrowest(int taking) {
-            int t = taking;
-            int room = LACK_MOST;
-            for (int hop = 0; hop < HARBOURS && from[t] != ITSELF; hop++) {
-                room = Math.min(room, sent[way[t] * HARBOURS + from[t]]);
-                t = from[t];
-            }
-            if (way[t] == HIRE) return Math.min(room, hirable[t]);
-            return way[t] == LEAVE ? room : Math.min(room, spare[way[t]]);
+        /** How many units a taker's own way has room for. */
+        private int roomOf(int t) {
+            int g = way[t];
+            if (g == HIRE) return hirable[t];
+            return g >= 0 && g < givers ? spare[g] : LACK_MOST;
         }
 
-        private void send(int taking, int units) {
-            int t = taking;
-            for (int hop = 0; hop < HARBOURS && from[t] != ITSELF; hop++) {
-                sent[way[t] * HARBOURS + t] += units;
-                sent[way[t] * HARBOURS + from[t]] -= units;
-                t = from[t];
-            }
-            if (way[t] == HIRE) {
+        private void goOwnWay(int t, int units) {
+            int g = way[t];
+            if (g == HIRE) {
                 hirable[t] -= units;
-            } else if (way[t] != LEAVE) {
-                spare[way[t]] -= units;
-                sent[way[t] * HARBOURS + t] += units;
+            } else if (g >= 0 && g < givers) {
+                spare[g] -= units;
+                sent[g * HARBOURS + t] += units;
             }
         }
     }
@@ -1079,7 +1072,7 @@ public final class FerryPlans {
 
         /** The fewest worlds as bits, of several the least number; 0 if there are none so few. */
         int fewest(int worlds, int mark) {
-            if (worlds == 0) return 0;
+            if (worlds == 0 || costs.bestOver(worlds) <= mark) return 0;
             find(worlds, mark);
             for (int size = 1; size <= FEWEST_MOST; size++) {
                 int bits = leastOf(size, worlds);

@@ -629,6 +629,26 @@ final class PromisesTest {
         Checks.law(x, "!b0");
         for (int what = 0; what < 6; what++) due("THE SET is empty", x.close(9, what), -9);
         closingSlowly();
+        closingWithTheFirst();
+    }
+
+    /**
+     * In WORLD 0 PLAN 48 is best (5); its WORST is 20, in WORLD 5. In both no PLAN is below 20, and PLAN 32 is the
+     * least that has it, with a WORST of 20, too: OVER stays with the first that had it.
+     */
+    private static void closingWithTheFirst() {
+        FerryPlans x = new FerryPlans();
+        tellAll(x, 0, 2, 2, 9);
+        tellAll(x, 1, 0, 0, 2, 3, 2);
+        tellAll(x, 2, 2, 2, 0, 0, 2);
+        int[][] moves = {{0, 1, 5}, {0, 2, 4}, {1, 0, 3}, {1, 2, 2}, {2, 0, 0}, {2, 1, 1}};
+        for (int[] one : moves) x.move(one[0], one[1], one[2]);
+        x.set(0, 1);
+        x.set(1, 5);
+        x.set(2, 2);
+        int[] due = {20, 20, 48, 2, 2, 1};
+        for (int what = 0; what < 6; what++) due("close(9, " + what + ") of two", x.close(9, what), due[what]);
+        due("BEST is the least", x.best(0), 32);
     }
 
     /** Three harbours of which one goes bad: WORLDS 0, 1, 2, 4 are borne by and by. */
@@ -695,6 +715,7 @@ final class PromisesTest {
 
     private static void promises() {
         FerryPlans x = pair();
+        due("nothing is shown", x.promise(1, 0, 3), 1080);
         due("nothing is shown", x.promise(1, 1, 0), 1080);
         due("0 is shown: not BAD", x.promise(1, 2, 0), 458);
         due("0 is shown: BAD", x.promise(1, 2, 1), 1080);
@@ -899,6 +920,9 @@ final class PromisesTest {
         due("law b0", x.drawn(1), 1);
         due("law b0", x.drawn(4), -9);
         due("none of them", x.drawn(0), 0);
+        FerryPlans y = oneBadOf(4);
+        y.year(15);
+        due("all BAD", y.drawn(1), 4);
     }
 
     private static void images() {
