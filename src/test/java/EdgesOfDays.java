@@ -17,6 +17,7 @@ final class EdgesOfDays {
         who();
         none();
         everyPlanCounts();
+        plansCountApart();
         noneCalls();
     }
 
@@ -203,6 +204,9 @@ final class EdgesOfDays {
         for (int h : ALL) x.with("tell", h, 2, 200);
         x.due(1 << 15, "none", 0, 1).due(1 << 15, "none", 99, 1).due(-9, "none", 100, 1).with("holds", 0, 0);
         x.due(1, "none", 99, 1).due(-9, "none", 100, 1);
+        // THE SET is WORLD 0 alone.
+        x = test(28, words).told(0, 7, 2, 999).with("set", 2, 0).due(1, "none", 699, 0).due(1, "none", 699, 1);
+        x.due(-9, "none", 700, 0).due(-9, "none", 700, 1);
         // A set of one that is great comes before a set of two that is small.
         x = test(28, words).told(0, 0, 10, 50).told(1, 0, 10, 50).told(2, 0, 30, 40).with("set", 2, 1);
         x.due(1, "none", 99, 0).due(16, "none", 99, 1).due(2, "none", 120, 0).due(2 + 16, "none", 120, 1);
@@ -224,6 +228,43 @@ final class EdgesOfDays {
             x.due(2, "none", 100 * ferries, 1).due(1, "none", 100 * ferries, 0);
             if (plan > 0) x.due(1, "none", 100 * ferries - 1, 1);
         }
+    }
+
+    /** Two PLANS of which one bears a WORLD and one another are not one that bears both, whichever two they are. */
+    private static void plansCountApart() {
+        for (int plan = 0; plan < 256; plan++) {
+            for (int h : ALL) if ((plan >> 2 * h & 3) < 3) apart(plan, plan + (1 << 2 * h), (h + 1) % 4);
+        }
+        for (int plan = 0; plan < 256; plan += 64) apart(plan, plan + 63, 3);
+        for (int plan = 0; plan < 4; plan++) apart(plan, plan + 252, 0);
+    }
+
+    /**
+     * The small PLAN has what is needed; in one WORLD a unit more lacks at 'same', where both have as many and a ferry is
+     * dear, in the other what the further ferries of the great PLAN carry. The MARK bears the unit, or these ferries.
+     */
+    private static void apart(int small, int great, int same) {
+        Run x = test(28, "so that no PLAN has a COST of MARK or less in all of them:").with("set", 1, 50);
+        int mark = 0;
+        int further = 0;
+        int other = 0;
+        for (int h : ALL) {
+            int has = small >> 2 * h & 3;
+            int gets = (great >> 2 * h & 3) - has;
+            int price = h == same ? 200 : 20;
+            x.told(h, 10 * has, h == same ? 1 : 10 * gets, price);
+            mark += has * price;
+            further += gets * price;
+            if (gets > 0) other |= 1 << h;
+        }
+        x.law(0, onlyWorld(1 << same) + "|" + onlyWorld(other));
+        x.due(1 << (1 << same) | 1 << other, "none", mark + Math.max(50, further), 1);
+    }
+
+    private static String onlyWorld(int world) {
+        StringBuilder law = new StringBuilder();
+        for (int h : ALL) law.append(h == 0 ? "" : "&").append((world >> h & 1) == 1 ? "b" : "!b").append(h);
+        return law.toString();
     }
 
     private static void noneCalls() {

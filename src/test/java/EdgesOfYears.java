@@ -279,7 +279,8 @@ final class EdgesOfYears {
 
     private static void calls() {
         // The 512th call is still answered as the document says, and later ones, whose answers are free, end as well.
-        Run x = test(35, "0 HARBOURS, 1 LAWS,").harbours(ALL);
+        String words = "An object is used for at most 512 calls after it has been made; what later calls answer is free.";
+        Run x = test(1, words).harbours(ALL);
         for (int n = 0; n < 250; n++) x.due(n == 0 ? 0 : 1 + (n - 1) % 99, "tell", 3, 0, 1 + n % 99).due(Math.min(40, n + 1), "count", 8);
         for (int n = 0; n < 7; n++) x.due(1, "undo");
         x.due(33, "count", 8);
